@@ -1,0 +1,29 @@
+/** Counts the answers that are not as due; a test ends with exit code 1 if there was one. */
+final class Due {
+    private int wrong = 0;
+    private int asked = 0;
+
+    void due(String call, long got, long want) {
+        asked++;
+        if (got != want) {
+            wrong++;
+            System.out.println(call + " answered " + got + ", due is " + want);
+        }
+    }
+
+    void due(String call, boolean got, boolean want) {
+        due(call, got ? 1L : 0L, want ? 1L : 0L);
+    }
+
+    void end() {
+        System.out.println(asked + " answers, " + wrong + " not as due");
+        if (wrong != 0) {
+            System.exit(1);
+        }
+    }
+
+    /** Three factors in one number. */
+    static int f(int a, int b, int c) {
+        return (a + 5) | ((b + 5) << 4) | ((c + 5) << 8);
+    }
+}
