@@ -114,7 +114,7 @@ public final class IntegerBox {
             return BAD_VARIABLE;
         }
         for (int place = 0; place < PLACES; place++) {
-            if (keeps(place, onSet)) {
+            if (isPoint(place)) {
                 return numberAt(place, v);
             }
         }
@@ -125,12 +125,27 @@ public final class IntegerBox {
         if (!areFactors(f)) {
             return BAD_FACTOR;
         }
-        return greatestSum(f);
+        int greatest = NONE;
+        for (int place = 0; place < PLACES; place++) {
+            if (isPoint(place)) {
+                int sum = sumAt(place, f);
+                greatest = sum > greatest ? sum : greatest;
+            }
+        }
+        return greatest;
     }
 
     public boolean follows(int f, int d) {
-        // Not asked of greatestSum: its NONE would lie above a d below -10000.
-        return areFactors(f) && !isExceeded(f, d);
+        if (!areFactors(f)) {
+            return false;
+        }
+        // Not asked of greatest: with no points its NONE would lie above a d below -10000.
+        for (int place = 0; place < PLACES; place++) {
+            if (isPoint(place) && sumAt(place, f) > d) {
+                return false;
+            }
+        }
+        return true;
     }
 
     public int numbers(int v) {
@@ -139,7 +154,7 @@ public final class IntegerBox {
         }
         int mask = 0;
         for (int place = 0; place < PLACES; place++) {
-            if (keeps(place, onSet)) {
+            if (isPoint(place)) {
                 mask = mask | (1 << (numberAt(place, v) - LOWEST));
             }
         }
@@ -174,7 +189,7 @@ public final class IntegerBox {
         }
         int count = 0;
         for (int place = 0; place < PLACES; place++) {
-            if (keeps(place, onSet) && sumAt(place, factors[limit]) == bounds[limit]) {
+            if (isPoint(place) && sumAt(place, factors[limit]) == bounds[limit]) {
                 count++;
             }
         }
@@ -246,38 +261,18 @@ public final class IntegerBox {
         return broken;
     }
 
-    private boolean keeps(int place, int set) {
-        return isInRanges(place) && (brokenAt(place) & set) == 0;
+    private boolean isPoint(int place) {
+        return isInRanges(place) && (brokenAt(place) & onSet) == 0;
     }
 
     private int countKeeping(int set) {
         int count = 0;
         for (int place = 0; place < PLACES; place++) {
-            if (keeps(place, set)) {
+            if (isInRanges(place) && (brokenAt(place) & set) == 0) {
                 count++;
             }
         }
         return count;
-    }
-
-    private int greatestSum(int f) {
-        int greatest = NONE;
-        for (int place = 0; place < PLACES; place++) {
-            if (keeps(place, onSet)) {
-                int sum = sumAt(place, f);
-                greatest = sum > greatest ? sum : greatest;
-            }
-        }
-        return greatest;
-    }
-
-    private boolean isExceeded(int f, int d) {
-        for (int place = 0; place < PLACES; place++) {
-            if (keeps(place, onSet) && sumAt(place, f) > d) {
-                return true;
-            }
-        }
-        return false;
     }
 
     /**
