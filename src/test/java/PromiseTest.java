@@ -20,8 +20,6 @@ public final class PromiseTest {
         idle();
         core();
         tight();
-        refusedCallsChangeNothing();
-        askingChangesNothing();
         objectsAreApart();
         D.end();
     }
@@ -387,61 +385,6 @@ public final class PromiseTest {
         }
         x.limit(f(0, 0, 0), -1);
         D.due("14: no points", x.tight(1), 0);
-    }
-
-    private static void refusedCallsChangeNothing() {
-        IntegerBox x = new IntegerBox();
-        x.range(0, -3, 4);
-        for (int i = 0; i < 6; i++) {
-            x.limit(f(1, i - 2, 1), i);
-        }
-        x.turn(3, false);
-        String before = told(x);
-        x.range(3, 0, 0);
-        x.range(-1, 0, 0);
-        x.range(0, -9, 0);
-        x.range(0, 0, 9);
-        x.range(0, 1, 0);
-        x.limit(f(0, 0, 0), -1);
-        x.limit(f(6, 0, 0), -1);
-        x.limit(f(0, 0, 0), -101);
-        x.relax(6, -1);
-        x.relax(-1, -1);
-        x.relax(0, -101);
-        x.relax(0, 101);
-        x.turn(6, false);
-        x.turn(-1, false);
-        D.due("refused calls change nothing", told(x).equals(before), true);
-        D.due("six limits yet", x.drop(), 5);
-        IntegerBox y = new IntegerBox();
-        y.drop();
-        D.due("a refused drop changes nothing", y.limit(f(0, 0, 0), 0), 0);
-    }
-
-    private static void askingChangesNothing() {
-        IntegerBox x = new IntegerBox();
-        x.range(2, -5, 6);
-        x.limit(f(1, 2, -3), 4);
-        x.limit(f(-1, 0, 2), -2);
-        x.limit(f(0, 1, 1), 0);
-        x.turn(1, false);
-        String before = told(x);
-        D.due("asking changes nothing", told(x).equals(before), true);
-        D.due("three limits yet", x.limit(f(0, 0, 0), 0), 3);
-    }
-
-    private static String told(IntegerBox x) {
-        StringBuilder text = new StringBuilder();
-        text.append(x.points()).append(' ').append(x.core());
-        for (int v = -1; v <= 3; v++) {
-            text.append(' ').append(x.first(v)).append(' ').append(x.numbers(v));
-        }
-        for (int limit = -1; limit <= 6; limit++) {
-            text.append(' ').append(x.idle(limit)).append(' ').append(x.tight(limit));
-        }
-        text.append(' ').append(x.greatest(f(1, 1, 1))).append(' ').append(x.greatest(f(0, 0, 6)));
-        text.append(' ').append(x.follows(f(1, 0, 0), 0)).append(' ').append(x.follows(-1, 0));
-        return text.toString();
     }
 
     private static void objectsAreApart() {
