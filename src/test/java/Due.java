@@ -38,7 +38,7 @@ final class Due {
         asked++;
         if (!got.equals(want)) {
             wrong++;
-            System.out.println(heading() + call + " left\n  " + got + "\nand due is\n  " + want);
+            System.out.println(heading() + call + " gave\n  " + got + "\nand due is\n  " + want);
         }
     }
 
